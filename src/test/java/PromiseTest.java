@@ -31,6 +31,7 @@ public final class PromiseTest {
         promise12Crumbles();
         promise13Lift();
         promise14Day();
+        promise14Kinds();
         promise14Stacks();
         promise15Largest();
         promise15Crumbles();
@@ -356,6 +357,10 @@ public final class PromiseTest {
         due("12 there", x.about(0, 2), 13);
         due("12 left", x.roll(0, LEFT), 5);
         due("12 there", x.about(0, 2), 12);
+        SnowBalls first = on(FOURS);
+        first.ball(BALL, 5);
+        due("12 up to the first place", first.roll(0, UP), 2);
+        due("12 the first place", first.about(0, 2), 0);
         due("12 depth", x.place(12, 0), 3);
         due("12 start", x.place(13, 0), 3);
         due("12 all", x.count(0), 76);
@@ -387,7 +392,7 @@ public final class PromiseTest {
         return x.roll(0, RIGHT);
     }
 
-    /** Of a ball grown along the whole lawn, the answers of all its rolls as one number by 31. */
+    /** A ball rolled along the whole lawn, row by row: its size behind each roll. */
     private static void grows(int kind, char wetness, int... sizes) {
         SnowBalls x = on("99999/99999/99999/99999;" + wetness);
         x.ball(kind, 0);
@@ -424,6 +429,11 @@ public final class PromiseTest {
         due("12 counted as gone", x.count(2), 1);
         due("12 no further", x.roll(0, LEFT), STATE);
         due("12 place is free", x.ball(BALL, 16), 1);
+        SnowBalls odd = on("99999/99999/99999/99919;9");
+        odd.ball(POWDER, 0);
+        due("12 nineteen", rolls(odd, 0, TO_TWENTY), 19);
+        due("12 each roll from nineteen crumbles it", odd.largest(0, 1, 0), 19);
+        due("12 twenty-one is above twenty", odd.roll(0, LEFT), 0);
     }
 
     private static void promise13Lift() {
@@ -435,7 +445,7 @@ public final class PromiseTest {
         due("13 itself", x.lift(0, 0), UNKNOWN);
         due("13 unknown a", x.lift(2, 0), UNKNOWN);
         due("13 unknown b", x.lift(0, -1), UNKNOWN);
-        due("13 same size", x.lift(0, 1), STATE);
+        due("13 same size across a corner", x.lift(0, 1), STATE);
         x.roll(1, LEFT);
         x.roll(1, RIGHT);
         due("13 across a corner", x.lift(0, 1), STATE);
@@ -451,6 +461,10 @@ public final class PromiseTest {
         due("13 a larger one stays below", x.about(2, 1), 5);
         due("13 what bears one is not lifted", x.lift(1, 2), STATE);
         due("13 nothing on one that bears one", x.lift(2, 1), STATE);
+        SnowBalls same = on(NINES);
+        same.ball(BALL, 0);
+        same.ball(BALL, 1);
+        due("13 same size", same.lift(0, 1), STATE);
         weightOfLifting();
         threeAreMost();
         SnowBalls gone = on(NINES);
@@ -472,6 +486,15 @@ public final class PromiseTest {
         due("13 twice the weight is too much", x.lift(0, 1), STATE);
         x.strength(4);
         due("13 twice the weight is just so much", x.lift(0, 1), 1 + 1);
+        SnowBalls y = on(NINES);
+        y.ball(SLUSH, 0);
+        y.roll(0, RIGHT);
+        y.ball(BALL, 4);
+        rolls(y, 1, "ll");
+        y.strength(7);
+        due("13 twice 4 is above 7", y.lift(0, 1), STATE);
+        y.strength(8);
+        due("13 twice 4 is 8", y.lift(0, 1), 1 + 1);
     }
 
     private static void threeAreMost() {
@@ -527,6 +550,21 @@ public final class PromiseTest {
         due("14 gone ones go no more", x.day(9), 0);
         due("14 gone", x.count(2), 4);
         due("14 depths stay", x.count(0), 80 - 3 - 6 - 3 - 3);
+    }
+
+    private static void meltsTo(int kind, int sun, int size) {
+        SnowBalls x = on(NINES);
+        x.ball(kind, 0);
+        rolls(x, 0, kind == DRUM ? "rrr" : "rrrrdl");
+        due("14 size of kind " + kind, x.about(0, 1), 7);
+        x.day(sun);
+        due("14 kind " + kind + " by sun " + sun, x.about(0, 1), size);
+    }
+
+    private static void promise14Kinds() {
+        int[][] by = {{7, 6, 5, 4, 3, 2, 1, 0, 0, 0}, {6, 5, 4, 3, 2, 1, 0, 0, 0, 0}, {7, 6, 5, 4, 3, 2, 1, 0, 0, 0},
+            {7, 6, 5, 4, 3, 2, 1, 0, 0, 0}, {7, 5, 3, 1, 0, 0, 0, 0, 0, 0}};
+        for (int kind = 0; kind < 5; kind++) for (int sun = 0; sun < 10; sun++) meltsTo(kind, sun, by[kind][sun]);
     }
 
     private static void promise14Stacks() {
@@ -586,6 +624,10 @@ public final class PromiseTest {
         due("15 fewest rolls, then down", far.largest(0, 2, 1), DOWN);
         due("15 not by one", far.largest(0, 1, 1), NONE);
         due("15 back and there again", far.largest(0, 6, 0), 4);
+        SnowBalls once = on("00000/00000/10000/00000;9");
+        once.ball(BALL, 0);
+        due("15 by a longer way no more", once.largest(0, 6, 0), 2);
+        due("15 the shorter row, if its side is greater", once.largest(0, 6, 1), DOWN);
         SnowBalls drum = on("00090/00000/00000/90000;9");
         drum.ball(DRUM, 0);
         due("15 drum in the column", drum.largest(0, 3, 1), RIGHT);
@@ -702,6 +744,17 @@ public final class PromiseTest {
         due("17 one gone", x.count(2), 1);
         due("17 without the gone one", x.highest(1), 11);
         due("17 3, 1, 4", x.highest(0), 1 + 1 + 2);
+        SnowBalls later = on(NINES);
+        later.strength(99);
+        for (int i = 0; i < 4; i++) later.ball(BALL, 5 * i);
+        rolls(later, 1, "r");
+        rolls(later, 2, "rr");
+        rolls(later, 3, "rrr");
+        due("17 the higher one has greater bits", later.highest(1), 11);
+        due("17 its height", later.highest(0), 1 + 1 + 2);
+        later.roll(2, RIGHT);
+        later.roll(0, RIGHT);
+        due("17 4 and 4 are of one size", later.highest(1), NONE);
         SnowBalls wet = on(NINES);
         wet.ball(WET, 0);
         wet.ball(WET, 5);
@@ -819,6 +872,39 @@ public final class PromiseTest {
         due("20 as it would be", x.about(0, 2) * 100 + x.about(0, 1), 1201);
         x.day(9);
         due("20 gone ones are drawn", x.games(60, 7, 1), 0);
+        for (int start : new int[] {0, 1, 99, 4711, 123456789, MAX}) gamesAsPlayed(start);
+    }
+
+    /** What games() tells is what comes of it when the same draws are rolled in truth. */
+    private static void gamesAsPlayed(int start) {
+        SnowBalls x = on(STEPS);
+        x.ball(BALL, 7);
+        x.ball(DRUM, 13);
+        x.ball(SLUSH, 4);
+        x.image();
+        long[] seed = {start};
+        int rolled = 0;
+        for (int times = 1; times <= 60; times++) {
+            int ball = drawn(seed, 3);
+            if (x.roll(ball, drawn(seed, 4)) != STATE) rolled++;
+            if (times % 12 != 0) continue;
+            int sizes = x.count(7);
+            int depths = x.count(0);
+            SnowBalls y = on(STEPS);
+            y.ball(BALL, 7);
+            y.ball(DRUM, 13);
+            y.ball(SLUSH, 4);
+            due("20 sizes of " + start, y.games(times, start, 0), sizes);
+            due("20 rolls of " + start, y.games(times, start, 1), rolled);
+            due("20 depths of " + start, y.games(times, start, 2), depths);
+            due("20 seed of " + start, y.games(times, start, 3), seed[0]);
+            due("20 nothing changed", y.count(0), 90);
+        }
+    }
+
+    private static int drawn(long[] seed, int many) {
+        seed[0] = (seed[0] * 1103515245L + 12345L) & 0x7fffffffL;
+        return (int) ((seed[0] >> 16) % many);
     }
 
     private static void promise21And22Image() {
@@ -856,6 +942,16 @@ public final class PromiseTest {
         type(x, FOURS);
         x.lawn();
         due("22 a lawn of the same text", x.restore(), STATE);
+        SnowBalls slots = stackOfTwo();
+        slots.ball(DRUM, 19);
+        slots.roll(2, UP);
+        type(slots, NINES);
+        slots.lawn();
+        slots.image();
+        for (int i = 0; i < 3; i++) slots.ball(DRUM, i);
+        due("22 a new one stands on no other", slots.about(1, 3), NONE);
+        due("22 a new one sticks to nothing", slots.about(2, 6), NONE);
+        due("22 three since", slots.restore(), 0);
         due("21 of the new one", x.image(), 0);
         due("22 of the new one", x.restore(), 0);
     }
@@ -889,6 +985,10 @@ public final class PromiseTest {
         x.roll(2, DOWN);
         type(x, "99");
         due("24 a lawn", x.digest(), digestOf(x, "99"));
+        SnowBalls lasting = on(NINES);
+        lasting.ball(BALL, 0);
+        rolls(lasting, 0, "rrrr");
+        due("24 lasts of 1", lasting.digest(), digestOf(lasting, ""));
         x.day(2);
         x.comes(0, 0);
         due("24 some gone", x.digest(), digestOf(x, "99"));
