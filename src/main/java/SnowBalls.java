@@ -22,6 +22,8 @@ public final class SnowBalls {
     private static final int MOST_BOOK_SIZE = 99;
     private static final int MOST_SEARCHES = 60;
     private static final int MOST_TIMES = 60;
+    /** Far above the root of all the snow that there can be. */
+    private static final int MOST_ROOT = 1000;
     private static final int COUNTS = 12;
     private static final int ABOUTS = 7;
     private static final Kind[] KINDS = Kind.values();
@@ -363,7 +365,7 @@ public final class SnowBalls {
 
     private static int rootOf(int size) {
         int root = 0;
-        for (int next = 1; next * next <= size; next++) root = next;
+        for (int next = 1; next <= MOST_ROOT && next * next <= size; next++) root = next;
         return root;
     }
 

@@ -17,6 +17,7 @@ public final class LawnEdgesTest {
         CHECK.sentence("1 a digit WETNESS (0 to 9)", LawnEdgesTest::leastAndGreatestWetness);
         CHECK.sentence("1 PLACES are 0 to 19, row by row (0 to 4 the first one, from the left)", LawnEdgesTest::placesRowByRow);
         CHECK.sentence("5 another one is gone, with BALLS, DAYS", LawnEdgesTest::anotherLawnIsGone);
+        CHECK.sentence("5 (another one is gone, with BALLS, DAYS; STRENGTH is 20)", LawnEdgesTest::nothingOfTheOtherStays);
         CHECK.sentence("5 STRENGTH is 20", LawnEdgesTest::strengthIsTwentyAgain);
         CHECK.sentence("5 THE PAGE is empty then", LawnEdgesTest::pageIsEmptyThen);
         CHECK.sentence("5 STATE: it is none", LawnEdgesTest::noLawnOnThePage);
@@ -174,6 +175,48 @@ public final class LawnEdgesTest {
         due("read twice", x.count(9), 2);
         due("numbers from 0", x.ball(Play.DRUM, 7), 0);
         for (int side = 0; side < 4; side++) due("a new drum sticks to nothing " + side, x.may(0, side), 1);
+    }
+
+    /** A stack of three on place 8 and a DRUM that sticks to a column, none of them gone; then another lawn. */
+    private static SnowBalls readOverFour(int balls) {
+        SnowBalls x = Play.on(Play.NINES);
+        x.strength(99);
+        Play.rolled(x, Play.BALL, 7, "rlrlr");
+        Play.rolled(x, Play.BALL, 3, "rlrl");
+        Play.rolled(x, Play.BALL, 12, "rlr");
+        x.lift(1, 0);
+        x.lift(2, 1);
+        Play.rolled(x, Play.DRUM, 0, "d");
+        x.day(0);
+        Play.read(x, Play.FOURS);
+        for (int ball = 0; ball < balls; ball++) x.ball(Play.DRUM, 6 + ball);
+        return x;
+    }
+
+    /** Such an object answers as a new one does on the same lawn, with none to four balls of its own. */
+    private static void nothingOfTheOtherStays() {
+        for (int balls = 0; balls <= 4; balls++) {
+            SnowBalls x = readOverFour(balls);
+            SnowBalls y = Play.on(Play.FOURS);
+            for (int ball = 0; ball < balls; ball++) y.ball(Play.DRUM, 6 + ball);
+            String what = " with " + balls;
+            for (int i = 0; i < 9; i++) due("count " + i + what, x.count(i), y.count(i));
+            for (int place = 0; place < 20; place++) {
+                for (int i = 0; i < 3; i++) due("place " + place + ", " + i + what, x.place(place, i), y.place(place, i));
+            }
+            for (int ball = 0; ball < 4; ball++) {
+                for (int i = 0; i < 7; i++) due("about " + ball + ", " + i + what, x.about(ball, i), y.about(ball, i));
+                for (int side = 0; side < 4; side++) due("may " + ball + ", " + side + what, x.may(ball, side), y.may(ball, side));
+            }
+            for (int i = 0; i < 2; i++) due("highest " + i + what, x.highest(i), y.highest(i));
+            due("lasts" + what, x.lasts(1), y.lasts(1));
+            due("book" + what, x.book(Play.BALL, 8, 3, 4), y.book(Play.BALL, 8, 3, 4));
+            for (int i = 0; i < 4; i++) due("games " + i + what, x.games(40, 3, i), y.games(40, 3, i));
+            due("largest" + what, x.largest(0, 4, 0), y.largest(0, 4, 0));
+            due("comes" + what, x.comes(0, 16), y.comes(0, 16));
+            due("day" + what, x.day(0), y.day(0));
+            due("last day" + what, x.day(9), y.day(9));
+        }
     }
 
     private static void strengthIsTwentyAgain() {

@@ -68,6 +68,16 @@ public final class WholeEdgesTest {
         for (int ball = 1; ball < 4; ball++) due("numbered again " + ball, x.ball(Play.WET, ball), ball);
         due("FULL again", x.ball(Play.WET, 9), Play.FULL);
         due("of the new kind", x.about(1, 0), Play.WET);
+        SnowBalls all = Play.withBalls(Play.NINES, Play.BALL, 0);
+        all.image();
+        long kept = all.digest();
+        Play.rolled(all, Play.BALL, 2, "r");
+        all.ball(Play.BALL, 4);
+        all.lift(2, 1);
+        all.ball(Play.SLUSH, 5);
+        all.restore();
+        due("all as it was", all.digest(), kept);
+        due("no more are gone by a day", all.day(9), 1);
     }
 
     /** Each change behind the image is undone by restore(): the digest tells all but the image. */

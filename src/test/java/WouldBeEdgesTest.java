@@ -613,6 +613,7 @@ public final class WouldBeEdgesTest {
                 }
             }
         }
+        goneOnesAreDrawn();
         int crumbled = 0;
         for (int seed = 0; seed < 40; seed++) {
             SnowBalls x = powderOf(Play.NINES, Play.TO_TWENTY.substring(0, 16));
@@ -620,6 +621,28 @@ public final class WouldBeEdgesTest {
             if (x.games(60, seed, 0) + x.games(60, seed, 2) < x.count(0) + x.count(7)) crumbled++;
         }
         due("a POWDER that crumbles is rolled no further", crumbled, 40);
+    }
+
+    /** Of four on green only one is not gone: it is rolled as often as it is drawn, and its way is free. */
+    private static void goneOnesAreDrawn() {
+        for (int seed = 0; seed < 20; seed++) {
+            SnowBalls x = Play.withBalls("00000/00010/00000/00000;9", Play.BALL, 0, 7, 14, 19);
+            x.roll(1, Play.RIGHT);
+            due("three are gone", x.day(1), 3);
+            int due = 0;
+            int row = 1;
+            int column = 3;
+            for (int time = 1; time <= 30; time++) {
+                int ball = drawn(seed, 2 * time - 1).intValueExact() / 65536 % 4;
+                int side = drawn(seed, 2 * time).intValueExact() / 65536 % 4;
+                int next = Play.besides(row * 5 + column, side);
+                if (ball != 1 || next == Play.NONE) continue;
+                row = next / 5;
+                column = next % 5;
+                due++;
+            }
+            due("rolls, seed " + seed, x.games(30, seed, 1), due);
+        }
     }
 
     private static void gamesChangeNothing() {
