@@ -192,7 +192,7 @@ public final class WouldBeEdgesTest {
         due("19 as it was", nineteen.about(0, 1), 19);
     }
 
-    /** Row by row: snow to the left by one roll, and up by two; both by no fewer than four. */
+    /** Snow to the left by one roll, and up by two; both by no fewer than four. */
     private static void fewestRollsFirst() {
         String lawn = "00100/00000/01000/00000;9";
         int[] sizes = {1, 2, 2, 2, 3, 3, 3};
